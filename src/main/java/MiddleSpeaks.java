@@ -1041,7 +1041,7 @@ public final class MiddleSpeaks {
     /** Goes on by layers: where all can be behind just so many comings, with the least that leads there. */
     private static final class Walk {
         private static final int MOST_COMINGS = 12;
-        private static final int UNREACHED = Integer.MAX_VALUE;
+        private static final int UNREACHED = 1 << 30;
 
         private final Standing standing;
         private final int[] least = new int[Standing.MOST_PACKED];

@@ -69,6 +69,7 @@ final class JudgingImageActsTapesTest {
         Due.is("of nobody", x.image(), 0);
         x.person(1, 2, 0);
         x.person(1, 2, 0);
+        x.learn(0, 3);
         Due.is("back to nobody", x.undo(), 0);
         Due.is("none", x.count(0), 0);
         Due.is("none of", x.of(0, 0), -1);
@@ -90,7 +91,7 @@ final class JudgingImageActsTapesTest {
         x.come(2, 0);
         x.spoken(7, 1);
         x.book(12);
-        x.book(13);
+        x.book(1);
         Due.is("taken", x.image(), 3);
         for (int round = 0; round < 2; round++) {
             x.person(40, 40, 2);
@@ -120,6 +121,7 @@ final class JudgingImageActsTapesTest {
             Due.is("rows", x.count(2), 1);
             Due.is("the row", x.fits(), 2);
             Due.is("book", x.count(3), 2);
+            Due.is("what is in it", x.readBook(), 1);
             Due.is("which house holds", x.told(0), 2);
             Due.is("houses stay", x.count(1), 2 + round);
             Due.is("the text stays", x.count(4), 2);

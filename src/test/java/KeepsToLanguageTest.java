@@ -11,7 +11,7 @@ final class KeepsToLanguageTest {
         "\\bthrows?\\b", "\\btry\\b", "\\bcatch\\b", "\\bfinally\\b", "\\bsynchronized\\b", "\\bassert\\b",
         "->", "::", "Exact\\b", "\\bprotected\\b", "\\bpackage\\b", "\\bvar\\b", "\\bObject\\b", "\\bSystem\\.(?!arraycopy\\b)",
         "\\bimport (?!java\\.util\\.(Arrays|ArrayList|List|Iterator);)", "\\bstatic \\{", "[^\\x00-\\x7f]", "\\bwhile\\b",
-        "\\bMath\\.(?!min\\b|max\\b|abs\\b)", "\\bInteger\\.(?!bitCount\\b|MAX_VALUE\\b)", "\\bLong\\.(?!MIN_VALUE\\b)",
+        "\\bMath\\.(?!min\\b|max\\b|abs\\b)", "\\bInteger\\.(?!bitCount\\b)", "\\bLong\\.(?!MIN_VALUE\\b)",
         "\\bArrays\\.(?!fill\\b|copyOf\\b|copyOfRange\\b)", "\\bthis::", "\\$", "\\bhashCode\\b", "\\btoString\\b", "\\bRandom\\b",
     };
     private static final int MOST_LINES = 60, MOST_CLASSES = 12;

@@ -313,6 +313,15 @@ final class PeopleRoomsHousesTest {
         fails("Same 1", 0);
         fails("worst 1 t=1", 3);
         fails("samebar", 4);
+        fails("pri 1 p=1", 3);
+        fails("ba p=1", 2);
+        fails("wort 1 t=1", 4);
+        fails("sam 1", 3);
+        fails("bar !", 5);
+        fails("bar !&p=1", 5);
+        fails("bar !|p=1", 5);
+        fails("bar p=1|!)", 9);
+        fails("bar (!)", 6);
         fails("same 1 p=1", 6);
         fails("same 123", 7);
         fails("same", 4);

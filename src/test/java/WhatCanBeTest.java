@@ -57,6 +57,12 @@ final class WhatCanBeTest {
         Due.is("first: 3 to 1", x.soonest(0, 0, 1), 13);
         Due.is("turn of 1 then", x.soonest(1, 0, 0), 0);
         Due.is("never 3", x.never(0), 8);
+        Due.is("1 more for the turn of 2", x.game(0, 4, 1), 1);
+        Due.is("2 more for the turn of 0", x.game(0, 1, 1), 0);
+        Due.is("the other goes, or not", x.game(0, 4, 2), 0);
+        Due.is("the last turn makes up for it: 2 in all", x.game(0, 1, 3), 1);
+        Due.is("1 in all", x.game(0, 4, 3), 1);
+        Due.is("0 or 3 in all is up to the other", x.game(0, 2, 3), 0);
         Due.house(x, "bar p<9", 1);
         Due.is("nobody comes, so it stays", x.soonest(2, 0, 0), -5);
         Due.is("all but 1", x.never(0), 13);
