@@ -1,11 +1,10 @@
-import java.io.IOException;
-import java.nio.charset.StandardCharsets;
-import java.nio.file.Files;
-import java.nio.file.Paths;
+import java.lang.reflect.Field;
+import java.lang.reflect.Method;
+import java.lang.reflect.Modifier;
 import java.util.regex.Matcher;
 import java.util.regex.Pattern;
 
-/** Those rules of ../shared/LANGUAGE.md that a look at the text of the class can tell. */
+/** Those rules of ../shared/LANGUAGE.md that a look at the text of the class, or at what is in it, can tell. */
 final class KeepsToLanguageTest {
     private static final String[] NOT_THERE = {
         "\\bthrows?\\b", "\\btry\\b", "\\bcatch\\b", "\\bfinally\\b", "\\bsynchronized\\b", "\\bassert\\b",
@@ -14,10 +13,10 @@ final class KeepsToLanguageTest {
         "\\bMath\\.(?!min\\b|max\\b|abs\\b)", "\\bInteger\\.(?!bitCount\\b)", "\\bLong\\.(?!MIN_VALUE\\b)",
         "\\bArrays\\.(?!fill\\b|copyOf\\b|copyOfRange\\b)", "\\bthis::", "\\$", "\\bhashCode\\b", "\\btoString\\b", "\\bRandom\\b",
     };
-    private static final int MOST_LINES = 60, MOST_CLASSES = 12;
+    private static final int MOST_LINES = 60, MOST_CLASSES = 12, MOST_PARAMETERS = 7, MOST_FIELDS = 20;
 
-    public static void main(String[] args) throws IOException {
-        String text = new String(Files.readAllBytes(Paths.get("src/main/java/MiddleSpeaks.java")), StandardCharsets.ISO_8859_1);
+    public static void main(String[] args) {
+        String text = Doc.read("src/main/java/MiddleSpeaks.java");
         String code = text.replaceAll("(?s)/\\*.*?\\*/", "").replaceAll("//[^\n]*", "");
         for (String wrong : NOT_THERE) {
             Matcher m = Pattern.compile(wrong).matcher(code);
@@ -28,7 +27,38 @@ final class KeepsToLanguageTest {
             1 + count(code, "(?m)^    private static final class "));
         Due.is("public ones", count(code, "\\bpublic\\b"), 1 + 2 + 1 + 34);
         methodsAreShort(code);
+        classKeeps(MiddleSpeaks.class);
+        for (Class<?> inside : MiddleSpeaks.class.getDeclaredClasses()) {
+            Due.is(inside + " is static", Modifier.isStatic(inside.getModifiers()) ? 1 : 0, 1);
+            Due.is(inside + " is not seen", Modifier.isPublic(inside.getModifiers()) ? 1 : 0, 0);
+            classKeeps(inside);
+        }
         Due.end();
+    }
+
+    private static void classKeeps(Class<?> some) {
+        int fields = 0;
+        for (Field field : some.getDeclaredFields()) {
+            if (!Modifier.isStatic(field.getModifiers())) {
+                fields++;
+            } else {
+                Due.is(field + " is final", Modifier.isFinal(field.getModifiers()) ? 1 : 0, 1);
+            }
+        }
+        Due.is(some + " has few fields", fields <= MOST_FIELDS ? 1 : 0, 1);
+        for (Method method : some.getDeclaredMethods()) {
+            Due.is(method + " has few parameters", method.getParameterCount() <= MOST_PARAMETERS ? 1 : 0, 1);
+            Due.is(method + " has a name of its own", !Modifier.isPublic(method.getModifiers()) && isCalled(method.getName()) ? 1 : 0, 0);
+        }
+    }
+
+    private static boolean isCalled(String name) {
+        for (Method call : MiddleSpeaks.class.getDeclaredMethods()) {
+            if (Modifier.isPublic(call.getModifiers()) && call.getName().equals(name)) {
+                return true;
+            }
+        }
+        return false;
     }
 
     private static int count(String code, String what) {
