@@ -45,6 +45,9 @@ public final class MiddleSpeaks {
         for (int i = 0; i < TAPES; i++) {
             tapes[i] = new Tape();
         }
+        for (int i = 0; i < MOST_HOUSES; i++) {
+            houses[i] = new House();
+        }
     }
 
     // ---- people, rooms, houses
@@ -130,13 +133,11 @@ public final class MiddleSpeaks {
         if (houseCount >= MOST_HOUSES) {
             return FULL;
         }
-        House next = new House();
-        int fault = reader.readInto(next, text, textLength);
+        int fault = reader.readInto(houses[houseCount], text, textLength);
         textLength = 0;
         if (fault >= 0) {
             return -10 - fault;
         }
-        houses[houseCount] = next;
         now.holds = houseCount;
         houseCount++;
         return now.holds;
@@ -614,6 +615,12 @@ public final class MiddleSpeaks {
         int stepCount;
         int same;
 
+        void forget() {
+            clauses = 0;
+            stepCount = 0;
+            same = 0;
+        }
+
         void addStep(int step) {
             if (stepCount < MOST_TEXT) {
                 steps[stepCount] = step;
@@ -698,6 +705,8 @@ public final class MiddleSpeaks {
         /** The fault, or -1. */
         int readInto(House target, int[] text, int textLength) {
             house = target;
+            // a text with a fault may have left some clauses in it
+            house.forget();
             signs = text;
             length = Math.min(textLength, text.length);
             at = 0;

@@ -117,6 +117,13 @@ final class HousesTest {
         Due.is("nothing of what was read ahead of the fault", x.told(0), 8);
         Due.house(x, "same 5", 3);
         Due.is("the number goes on", x.told(0), 5);
+        MiddleSpeaks y = Due.withPeople(new int[1], new int[1], new int[1]);
+        Due.house(y, "same 6;price 9 p=0;bar p=0;", -37);
+        Due.is("no house yet", y.coming(0, 1, 0), 1);
+        Due.house(y, "bar p=9", 0);
+        Due.is("no same of the text with a fault", y.told(0), 0);
+        Due.is("no price of it", y.coming(0, 1, 0), 1);
+        Due.is("no bar of it", y.coming(0, 1, 1), 0);
     }
 
     private static void sixHouses() {
@@ -199,6 +206,8 @@ final class HousesTest {
         Due.is("price", x.coming(0, 1, 0), 8);
         Due.house(x, nine + "bar p=0", 1);
         Due.is("bar", x.coming(0, 1, 1), 1);
+        Due.is("none of ten holds", x.coming(1, 1, 1), 0);
+        Due.is("no price of ten", x.coming(1, 1, 0), 1);
         Due.house(x, nine + "worth 5 p=1", 2);
         Due.is("worth", x.say(0, 0), 5);
         Due.house(x, nine + "same 30", 3);

@@ -365,6 +365,16 @@ final class JudgingImageActsTest {
         Due.is("twelve", x.count(5), 12);
         Due.is("the twelfth", x.trace(11), 10);
         Due.is("a thirteenth", x.trace(12), -1);
+        for (int kind = 0; kind < 7; kind++) {
+            x.room(2, kind, 4);
+            for (int act = 0; act < 3; act++) {
+                x.act(2, act, kind);
+                int ran = x.count(5);
+                Due.is("some ran, and 12 at most", ran > 0 && ran <= 12 ? 1 : 0, 1);
+                Due.is("the last of them is kept", x.trace(ran - 1), 10);
+                Due.is("there is none behind it", x.trace(ran), -1);
+            }
+        }
         x.act(1, 0, 1);
         Due.is("the latest alone", x.count(5), 1);
         Due.is("its first", x.trace(0), 10);
@@ -399,6 +409,13 @@ final class JudgingImageActsTest {
             Due.is("act " + wrong, x.act(0, wrong, 5), 0);
             Due.is("no trace then", x.trace(0), -1);
             Due.is("none ran then", x.count(5), 0);
+        }
+        for (int kind = 0; kind < 7; kind++) {
+            for (int act : new int[] {-1, 3}) {
+                x.room(1, kind, 0);
+                Due.is("act " + act + " of kind " + kind, x.act(1, act, 5), 0);
+                Due.is("none ran", x.count(5), 0);
+            }
         }
     }
 

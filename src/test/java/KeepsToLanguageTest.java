@@ -27,6 +27,7 @@ final class KeepsToLanguageTest {
             1 + count(code, "(?m)^    private static final class "));
         Due.is("public ones", count(code, "\\bpublic\\b"), 1 + 2 + 1 + 34);
         methodsAreShort(code);
+        callsMakeNothing(code);
         classKeeps(MiddleSpeaks.class);
         for (Class<?> inside : MiddleSpeaks.class.getDeclaredClasses()) {
             Due.is(inside + " is static", Modifier.isStatic(inside.getModifiers()) ? 1 : 0, 1);
@@ -34,6 +35,18 @@ final class KeepsToLanguageTest {
             classKeeps(inside);
         }
         Due.end();
+    }
+
+    /** All is made by fields and by the constructor. */
+    private static void callsMakeNothing(String code) {
+        int made = code.indexOf("public MiddleSpeaks() {");
+        int calls = code.indexOf("public int person(");
+        String others = code.substring(0, made) + code.substring(calls);
+        for (String line : others.split("\n")) {
+            if (line.matches(".*\\bnew\\b.*")) {
+                Due.is("a field makes it: " + line.trim(), line.matches(" +(private )?(static )?(final )?[\\w\\[\\]]+ \\w+ = new .*;") ? 1 : 0, 1);
+            }
+        }
     }
 
     private static void classKeeps(Class<?> some) {

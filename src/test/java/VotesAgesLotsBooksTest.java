@@ -22,6 +22,7 @@ final class VotesAgesLotsBooksTest {
         refusedBook();
         readBook();
         readsAsItGoesOn();
+        readsEachNumber();
     }
 
     private static MiddleSpeaks five() {
@@ -344,5 +345,25 @@ final class VotesAgesLotsBooksTest {
         MiddleSpeaks out = new MiddleSpeaks();
         out.book(0);
         Due.is("nobody is there", out.readBook(), 0);
+    }
+
+    /** One of five is in a room, alone, and knows all; the others are out. */
+    private static void readsEachNumber() {
+        for (int who = 0; who < 5; who++) {
+            int[] places = {3, 3, 3, 3, 3};
+            places[who] = 2;
+            MiddleSpeaks x = Due.withPeople(new int[5], new int[5], places);
+            for (int any = 0; any < 5; any++) {
+                x.learn(any, 255);
+            }
+            for (int thing = 0; thing < 8; thing++) {
+                x.book(10 * who + thing);
+            }
+            Due.is("all things, of " + who, x.readBook(), 8);
+            x.book(10 * ((who + 1) % 5));
+            Due.is("not those who are out", x.readBook(), 8);
+            x.learn(who, 127);
+            Due.is("all but the last thing, of " + who, x.readBook(), 7);
+        }
     }
 }
