@@ -124,6 +124,11 @@ final class HousesTest {
         Due.is("no same of the text with a fault", y.told(0), 0);
         Due.is("no price of it", y.coming(0, 1, 0), 1);
         Due.is("no bar of it", y.coming(0, 1, 1), 0);
+        for (int i = 0; i < 3; i++) {
+            Due.house(y, longest("p=1&"), -110);
+        }
+        Due.house(y, "bar p=9|p=0", 1);
+        Due.is("no test of the longest texts with a fault", y.coming(0, 1, 1), 1);
     }
 
     private static void sixHouses() {
