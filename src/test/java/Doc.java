@@ -13,12 +13,15 @@ final class Doc {
     private static final String WHOLE = read("../shared/DOC.md");
     /** Place 0 is for the terms, the others are for the promises. */
     private static final String[] SAYS = new String[PROMISES + 1];
+    private static final String[] FACES = new String[PROMISES + 1];
     private static final boolean[][] STOOD_FOR = new boolean[PROMISES + 1][];
 
     static {
         SAYS[0] = terms();
         for (int promise = 1; promise <= PROMISES; promise++) {
-            SAYS[promise] = folded(found("(?s)## Promise " + promise + ": \\w[^\n]*\n+`[^`]*`:(.*?)\n## "));
+            String ahead = "(?s)## Promise " + promise + ": \\w[^\n]*\n+";
+            FACES[promise] = found(ahead + "`([^`]*)`:");
+            SAYS[promise] = folded(found(ahead + "`[^`]*`:(.*?)\n## "));
         }
         for (int part = 0; part <= PROMISES; part++) {
             STOOD_FOR[part] = new boolean[SAYS[part].length()];
@@ -30,6 +33,20 @@ final class Doc {
 
     static String whole() {
         return WHOLE;
+    }
+
+    /** Which constructor or call a promise is for. */
+    static String face(int promise) {
+        return FACES[promise];
+    }
+
+    static String says(int promise) {
+        return SAYS[promise];
+    }
+
+    /** Whether it says these words somewhere. */
+    static boolean hasWords(String words) {
+        return folded(WHOLE).contains(folded(words));
     }
 
     static String read(String file) {

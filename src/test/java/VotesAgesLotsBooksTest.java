@@ -191,6 +191,10 @@ final class VotesAgesLotsBooksTest {
         Due.promise(22, "ODDS; part 0 above, 1 below the line.");
         // out by the first (then in for sure), or one of two rooms (then two of three)
         odds(one, 0, 2, 7, 9);
+        // of 81 ways: 0 in (3) and on to another room (2), or another one to another room (4); or another one in (6), then 0 (2)
+        MiddleSpeaks three = Due.withPeople(new int[] {10, 20, 30}, new int[3], new int[] {3, 3, 3});
+        odds(three, 0, 2, 10, 27);
+        odds(three, 0, 1, 1, 3);
     }
 
     private static void lotAmongBars() {

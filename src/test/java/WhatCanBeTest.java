@@ -255,6 +255,8 @@ final class WhatCanBeTest {
         Due.house(x, "bar p=1&r=0;bar r=0&n>1;same 9", 0);
         Due.is("1 cannot come", x.never(0), 2);
         Due.is("elsewhere", x.never(1), 0);
+        MiddleSpeaks two = Due.withPeople(new int[] {10, 20}, new int[2], new int[] {3, 0});
+        Due.is("1 can at once, 0 by two: 1 goes, then 0 comes", two.never(0), 0);
         Due.promise(15, "NEVER, as bits.");
         Due.is("of nobody", new MiddleSpeaks().never(2), 0);
         MiddleSpeaks five = scene(new int[5], new int[] {3, 3, 3, 3, 3}, new int[3], new int[3], "bar r=2");
